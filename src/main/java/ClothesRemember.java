@@ -777,11 +777,12 @@ public final class ClothesRemember {
         }
 
         long at(int i) {
-            return spans(i, 1) ? elements[i] : 0L;
+            return i >= 0 && i < size ? elements[i] : 0L;
         }
 
+        /** Of longs the lowest 32 bits, wherever a row tells something. */
         int intAt(int i) {
-            return (int) at(i);
+            return i >= 0 && i < size ? (int) elements[i] : 0;
         }
 
         boolean tellsDeedsAlone() {
@@ -1000,15 +1001,22 @@ public final class ClothesRemember {
 
         int pullOf(int number, int hour) {
             Garment garment = garments[number];
+            int deed = garment.habits[hour];
             int firm = garment.firms[hour];
-            if (garment.habits[hour] == 0) {
+            int pull = firm + garment.a;
+            if (deed == 0) {
                 return 0;
             }
             switch (garment.kind) {
                 case COAT:
-                    return firm + garment.a;
+                    return pull;
                 case UNIFORM:
-                    return firm + uniformsDoing(garment.habits[hour], hour) + garment.a;
+                    for (int other = 0; other < garmentCount; other++) {
+                        if (garments[other].kind == UNIFORM && garments[other].habits[hour] == deed) {
+                            pull++;
+                        }
+                    }
+                    return pull;
                 case RAG:
                     return firm / 2;
                 case SILK:
@@ -1018,16 +1026,6 @@ public final class ClothesRemember {
                 default:
                     return firm;
             }
-        }
-
-        private int uniformsDoing(int deed, int hour) {
-            int count = 0;
-            for (int garment = 0; garment < garmentCount; garment++) {
-                if (garments[garment].kind == UNIFORM && garments[garment].habits[hour] == deed) {
-                    count++;
-                }
-            }
-            return count;
         }
 
         /** What one would do with such a will in such garments (bits). */
@@ -1073,7 +1071,7 @@ public final class ClothesRemember {
         boolean passHour(int hour) {
             // all at once: everybody has done a deed before any garment learns
             for (int person = 0; person < peopleCount; person++) {
-                done[person] = deedOf(person, hour);
+                done[person] = deedIn(person, hour, wornBy(person), people[person].will);
             }
             boolean learnt = false;
             for (int garment = 0; garment < garmentCount; garment++) {
@@ -1340,31 +1338,29 @@ public final class ClothesRemember {
             fault = NONE;
             int items = 0;
             boolean more = true;
+            // an item and its ; take more than one element each
             while (more && items <= MOST_ELEMENTS) {
-                readItem();
-                items++;
-                more = fault == NONE && place < text.size;
-                if (more) {
-                    more = readSign(';');
+                int word = readItem();
+                if (word == NONE) {
+                    return items;
                 }
+                tell(word);
+                items++;
+                more = place < text.size && readSign(';');
             }
             return items;
         }
 
-        private void readItem() {
+        /** The word of an item whose numbers are read as well; NONE behind a fault. */
+        private int readItem() {
             int start = place;
             int word = readWord();
-            if (word == NONE) {
-                return;
-            }
             if (word == PERSON_WORD && closet.isFullOfPeople()
                     || word == GARMENT_WORD && closet.isFullOfGarments()) {
                 fault = start;
-                return;
+                return NONE;
             }
-            if (readNumbers(word)) {
-                tell(word);
-            }
+            return word != NONE && readNumbers(word) ? word : NONE;
         }
 
         /** Letter by letter: the fault is the first with which no word goes on. */

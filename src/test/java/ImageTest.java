@@ -38,6 +38,13 @@ public final class ImageTest {
         for (int s = 1; s <= 4; s++) {
             x.show(s, s - 1);
         }
+        x.show(7, 2);
+        ClothesRemember y = new ClothesRemember();
+        y.image();
+        y.garment(0, 0);
+        y.show(0, 0);
+        y.restore();
+        Check.due("44: none of this number", y.holds(0), -1);
         Check.due("44: two", x.restore(), 2);
         Check.due("44: a row stays", x.element(0, 1), 6);
         Check.due("44: of this number", x.holds(1), 0);
@@ -45,6 +52,7 @@ public final class ImageTest {
         Check.due("44: none of this number", x.holds(3), -1);
         Check.due("44: none of this number", x.holds(4), -1);
         Check.due("44: nothing was there", x.holds(5), -1);
+        Check.due("44: none of this number", x.holds(7), -1);
         x.garment(6, 6);
         Check.due("44: stays nothing", x.holds(3), -1);
         x.show(3, 2);

@@ -135,10 +135,32 @@ public final class OutcomesTest {
         x.row(1, 3, 24);
         x.set(1, 12, (5L << 40) + 1);
         Check.due("28: lowest 32 bits", x.dressed(1, 1, 0), 2);
+        x.row(1, 2, 24);
+        for (int i = 0; i < 24; i++) {
+            x.set(1, i, 11);
+        }
+        Check.due("28: none can be done", x.dressed(1, 3, -1), 0);
+        Check.due("28: the first way of all", new long[] {x.dressed(1, 3, 0), x.dressed(1, 3, 1), x.dressed(1, 3, 2)},
+            0, 0, 0);
+        dressingTheLast();
         ClothesRemember nobody = Check.told("garment 0 0;garment 0 0;garment 0 0;garment 0 0");
         nobody.row(0, 0, 0);
         Check.due("28: nobody there", nobody.dressed(0, 4, -1), 0);
         Check.due("28: nobody wears it", nobody.dressed(0, 4, 3), 0);
+    }
+
+    /** Four garments on the last of six people: the last way of all. */
+    private static void dressingTheLast() {
+        ClothesRemember x = Check.told("person 0;person 0;person 0;person 0;person 0;person 0",
+            "garment 0 0;garment 0 0;garment 0 0;garment 0 0",
+            "habit 0 8 1 5;habit 1 9 2 5;habit 2 10 3 5;habit 3 11 4 5");
+        x.row(0, 0, 72);
+        for (int i = 0; i < 72; i++) {
+            x.set(0, i, i >= 68 ? i - 67 : -1);
+        }
+        Check.due("28: all four", x.dressed(0, 4, -1), 4);
+        Check.due("28: on the last", new long[] {x.dressed(0, 4, 0), x.dressed(0, 4, 1), x.dressed(0, 4, 2),
+            x.dressed(0, 4, 3)}, 6, 6, 6, 6);
     }
 
     private static void dressingRefused() {
@@ -330,8 +352,11 @@ public final class OutcomesTest {
         x.set(3, 11, -1);
         Check.due("36: -1 is no deed", x.taught(3, 0), -16);
         x.set(3, 11, 0);
+        x.set(3, 0, 10);
+        Check.due("36: the first is no deed", x.taught(3, 0), -16);
+        x.set(3, 0, 0);
         Check.due("36: beyond 12", x.taught(3, 0), 0);
-        Check.dueRefusals("36", x, 3, 1, 1, 0, 1, 2);
+        Check.dueRefusals("36", x, 3, 1, 1, 0, 1, 3);
     }
 
     private static void likenessesOf(int number) {

@@ -105,6 +105,9 @@ public final class ShelvesTest {
         Check.due("4: a garment and nothing", x.copy(3, 4, 0, 0, -1), -2);
         Check.due("4: nothing and a garment", x.copy(4, 3, 0, 0, -1), -2);
         Check.due("4: two sorts", x.copy(0, 2, 9, 9, -1), -2);
+        x.row(5, 0, 5);
+        Check.due("4: bytes and shorts", x.copy(5, 2, 0, 0, 1), -2);
+        Check.due("4: shorts and bytes", x.copy(2, 5, 0, 0, 1), -2);
         Check.due("4: to nothing", x.copy(0, 4, 9, 9, -1), -3);
         Check.due("4: from nothing", x.copy(4, 0, 9, 9, -1), -3);
         Check.due("4: below", x.copy(0, 1, -1, -1, -1), -4);
@@ -116,7 +119,7 @@ public final class ShelvesTest {
         Check.due("4: wrapping", x.copy(0, 1, MAX, 0, MAX), -5);
         Check.due("4: wrapping", x.copy(0, 1, 0, MAX, 2), -5);
         Check.due("4: wrapping", x.copy(0, 1, MIN, 0, 1), -5);
-        Check.dueRefusals("4", x, 2, 3, 2, 1, 8);
+        Check.dueRefusals("4", x, 2, 5, 2, 1, 8);
     }
 
     private static void shows() {

@@ -135,6 +135,8 @@ public final class TextsTest {
         dueFault("person 1 ", 8);
         dueFault("person 1 1", 8);
         dueFault("person 1x", 8);
+        dueFault("own 001 x", 6);
+        dueFault("habit 00x", 8);
         dueFault("person 01x", 9);
         dueFault("garment 0", 9);
         dueFault("garment 0;", 9);
