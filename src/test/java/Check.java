@@ -1,14 +1,20 @@
 /** What the tests share: answers that are due, rows and texts put on shelves. */
 final class Check {
     private static int wrong = 0;
+    private static String test = "";
 
     private Check() {
+    }
+
+    /** From here on, what is not as due is told with the name of this test. */
+    static void begin(String name) {
+        test = name.isEmpty() ? "" : name + ": ";
     }
 
     static void due(String call, long got, long want) {
         if (got != want) {
             wrong++;
-            System.out.println(call + " answered " + got + ", due is " + want);
+            System.out.println(test + call + " answered " + got + ", due is " + want);
         }
     }
 
