@@ -544,16 +544,9 @@ public final class DaysEdgesTest {
             above = isNegative ? above : seed;
         }
         for (int seed : new int[] {below, above, 0, -1, MIN, MAX}) {
-            ClothesRemember x = new ClothesRemember();
-            ClothesRemember y = new ClothesRemember();
-            for (int g = 0; g < 3; g++) {
-                x.garment(6, 0);
-                x.habit(g, 0, 5, 9);
-                y.garment(6, 0);
-                y.habit(g, 0, 5, 9);
-            }
+            ClothesRemember x = threeGowns();
+            ClothesRemember y = threeGowns();
             x.seed(seed);
-            x.years(60);
             int at = seed;
             for (int year = 0; year < 60; year++) {
                 at = Draws.next(at);
@@ -562,20 +555,20 @@ public final class DaysEdgesTest {
                 if (Draws.drawn(at, 4) == 0) {
                     y.wash(g);
                 }
-                if (year == 0) {
-                    ClothesRemember z = new ClothesRemember();
-                    for (int i = 0; i < 3; i++) {
-                        z.garment(6, 0);
-                        z.habit(i, 0, 5, 9);
-                    }
-                    z.seed(seed);
-                    Check.due("habits left behind a year", z.years(1), y.status(2));
-                    Check.due("of that garment", z.garmentOf(g, 10), y.garmentOf(g, 10));
-                }
+                Check.due("habits left behind year " + year, x.years(1), y.status(2));
+                Check.due("of that garment behind year " + year, x.garmentOf(g, 10), y.garmentOf(g, 10));
             }
             Check.due("seed " + seed, x.status(5), at);
-            Check.due("habits left by seed " + seed, x.status(2), y.status(2));
         }
+    }
+
+    private static ClothesRemember threeGowns() {
+        ClothesRemember x = new ClothesRemember();
+        for (int g = 0; g < 3; g++) {
+            x.garment(6, 0);
+            x.habit(g, 0, 5, 9);
+        }
+        return x;
     }
 
     static void promise39HabitsFrom0ToAll() {

@@ -102,13 +102,16 @@ final class Edges {
     static String all(ClothesRemember x) {
         StringBuilder all = new StringBuilder(Worlds.all(x));
         for (int s = 0; s < 8; s++) {
-            all.append(" shelf ").append(x.holds(s)).append(':');
-            for (int i = 0; i < sizeOf(x, s); i++) {
+            int held = x.holds(s);
+            all.append(" shelf ").append(held).append(':');
+            int size = held < 100 ? 0 : sizeOf(x, s);
+            for (int i = 0; i < size; i++) {
                 all.append(x.element(s, i)).append(',');
             }
         }
-        all.append(" fault ").append(x.fault()).append(" bodies ").append(x.status(6));
-        for (int i = 0; i < Math.min(20, x.status(6)); i++) {
+        int ran = x.status(6);
+        all.append(" fault ").append(x.fault()).append(" bodies ").append(ran);
+        for (int i = 0; i < Math.min(20, ran); i++) {
             all.append(' ').append(x.trace(i));
         }
         return all.toString();
@@ -116,9 +119,6 @@ final class Edges {
 
     /** By halves: copying none from a place is refused just behind the end. */
     private static int sizeOf(ClothesRemember x, int s) {
-        if (x.holds(s) < 100) {
-            return 0;
-        }
         int least = 0;
         int most = 160;
         while (least < most) {

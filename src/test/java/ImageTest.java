@@ -81,24 +81,37 @@ public final class ImageTest {
     }
 
     private static void takenAndRestored(int number) {
+        String learnt = Worlds.learnt(lived(number));
+        String others = Worlds.others(lived(number));
+        int garments = Worlds.garments(lived(number));
+        ClothesRemember x = lived(number);
+        Check.due("43: world " + number, x.image(), garments);
+        Check.due("43: changes nothing in world " + number, Worlds.learnt(x).equals(learnt) ? 1 : 0, 1);
+        ClothesRemember y = lived(number);
+        Check.due("43: world " + number, y.image(), garments);
+        Check.due("43: changes nothing in world " + number, Worlds.others(y).equals(others) ? 1 : 0, 1);
+        Check.due("44: as it was in world " + number, Worlds.learnt(restored(number, garments)).equals(learnt) ? 1 : 0, 1);
+        Check.due("44: as it was in world " + number, Worlds.others(restored(number, garments)).equals(others) ? 1 : 0, 1);
+    }
+
+    private static ClothesRemember lived(int number) {
         ClothesRemember x = Worlds.world(number);
         x.seed(number);
         x.days(1);
-        String before = Worlds.all(x);
-        Check.due("43: world " + number, x.image(), Worlds.garments(x));
-        ClothesRemember y = Worlds.world(number);
-        y.seed(number);
-        y.days(1);
-        y.image();
-        Check.due("43: changes nothing in world " + number, Worlds.all(y).equals(before) ? 1 : 0, 1);
-        y.years(30);
-        y.will(0, 0);
-        y.person(3);
-        y.garment(1, 1);
-        y.habit(0, 0, 9, 9);
-        y.own(0, 0, 9);
-        Check.due("44: world " + number, y.restore(), Worlds.garments(x));
-        Check.due("44: all is as it was in world " + number, Worlds.all(y).equals(before) ? 1 : 0, 1);
+        return x;
+    }
+
+    private static ClothesRemember restored(int number, int garments) {
+        ClothesRemember x = lived(number);
+        x.image();
+        x.years(30);
+        x.will(0, 0);
+        x.person(3);
+        x.garment(1, 1);
+        x.habit(0, 0, 9, 9);
+        x.own(0, 0, 9);
+        Check.due("44: world " + number, x.restore(), garments);
+        return x;
     }
 
     private static void counted(int number) {

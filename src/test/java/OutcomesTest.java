@@ -360,8 +360,8 @@ public final class OutcomesTest {
     }
 
     private static void likenessesOf(int number) {
-        ClothesRemember x = Worlds.world(number);
-        for (int g = 0; g < Worlds.garments(x); g += 3) {
+        for (int g = 0; g < Worlds.garments(Worlds.world(number)); g += 3) {
+            ClothesRemember x = Worlds.world(number);
             int best = -1;
             int most = 0;
             for (int p = 0; p < Worlds.people(x); p++) {

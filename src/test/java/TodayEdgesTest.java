@@ -238,11 +238,16 @@ public final class TodayEdgesTest {
 
     // ---- promise 28
 
-    /** Six people, eight garments, a row of all deeds, one too short by one, a garment, nothing. */
+    /** Three people, five garments, a row of all deeds, a garment, nothing, a row too short by one. */
     private static ClothesRemember forDressing() {
-        ClothesRemember x = Edges.full();
-        x.row(0, 0, 72);
-        x.row(3, 0, 71);
+        ClothesRemember x = many(3, 5);
+        x.wear(1, 2);
+        x.wear(4, 0);
+        x.image();
+        x.row(0, 0, 36);
+        x.set(0, 12, 5);
+        x.show(1, 4);
+        x.row(3, 0, 35);
         return x;
     }
 
@@ -257,10 +262,10 @@ public final class TodayEdgesTest {
 
     static void promise28KIs1To4() {
         for (int k = 1; k <= 4; k++) {
-            int of = k;
             ClothesRemember x = forDressing();
-            Check.due("k " + k, x.dressed(0, k, -1) >= 0 ? 1 : 0, 1);
-            Check.due("who", x.dressed(0, of, of - 1) >= 0 ? 1 : 0, 1);
+            // the first spoils its day by the fifth garment, the third by the second one while that stays
+            Check.due("k " + k, x.dressed(0, k, -1), k == 1 ? 11 : 23);
+            Check.due("who wears the last of " + k, x.dressed(0, k, k - 1), 0);
         }
         Edges.refusedOutside("dressed(0, ?, NONE)", TodayEdgesTest::forDressing, 1, 4, -6,
             (x, k) -> x.dressed(0, k, -1));
@@ -316,7 +321,7 @@ public final class TodayEdgesTest {
             }
             Check.due("beyond those of " + people, x.dressed(0, 1, -1), 12 * people);
         }
-        Edges.refused("71 for six", TodayEdgesTest::forDressing, -5, x -> x.dressed(3, 1, -1));
+        Edges.refused("35 for three", TodayEdgesTest::forDressing, -5, x -> x.dressed(3, 1, -1));
         Edges.refused("23 for two", TodayEdgesTest::three, -5, x -> x.dressed(3, 1, 0));
     }
 

@@ -5,10 +5,14 @@ public final class WildTest {
     private static final int[] EDGES = {Integer.MIN_VALUE, Integer.MAX_VALUE, -2, -1, 0, 1, 2, 3, 4, 5, 6, 7, 8, 9, 10,
         11, 12, 13, 59, 60, 61, 159, 160, 161};
     private static final String LETTERS = "persongarmentownhabitwearoffwashday 0123456789;;    ";
+    // an object is used for 512 calls; a world takes some 200 of them, a text at most 15
     private static final int CALLS = 512;
+    private static final int CALLS_OF_A_WORLD = 210;
+    private static final int CALLS_OF_A_TEXT = 15;
+    private static final int KINDS_OF_CALLS = 44;
 
     public static void main(String[] args) {
-        for (int number = 0; number < 400; number++) {
+        for (int number = 0; number < 800; number++) {
             long once = runOf(number);
             Check.due("run " + number + " again", runOf(number), once);
         }
@@ -19,8 +23,11 @@ public final class WildTest {
         Random random = new Random(number);
         ClothesRemember x = number % 2 == 0 ? new ClothesRemember() : Worlds.world(number);
         long answers = 0;
-        for (int call = 0; call < CALLS; call++) {
-            answers = answers * 31 + any(x, random, random.nextInt(44));
+        int left = number % 2 == 0 ? CALLS : CALLS - CALLS_OF_A_WORLD;
+        while (left > 0) {
+            int call = random.nextInt(left < CALLS_OF_A_TEXT ? KINDS_OF_CALLS - 1 : KINDS_OF_CALLS);
+            answers = answers * 31 + any(x, random, call);
+            left -= call == KINDS_OF_CALLS - 1 ? CALLS_OF_A_TEXT : 1;
         }
         return answers;
     }

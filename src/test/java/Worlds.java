@@ -44,7 +44,8 @@ final class Worlds {
     /** Habits and how firm they are, as one text. */
     static String learnt(ClothesRemember x) {
         StringBuilder all = new StringBuilder();
-        for (int g = 0; g < garments(x); g++) {
+        int garments = garments(x);
+        for (int g = 0; g < garments; g++) {
             for (int hour = 0; hour < HOURS; hour++) {
                 all.append(x.garmentOf(g, 10 + hour)).append('/').append(x.garmentOf(g, 30 + hour)).append(' ');
             }
@@ -54,11 +55,18 @@ final class Worlds {
 
     /** All that can be told of people and garments. */
     static String all(ClothesRemember x) {
-        StringBuilder all = new StringBuilder(learnt(x));
-        for (int g = 0; g < garments(x); g++) {
+        return learnt(x) + others(x);
+    }
+
+    /** All but what is learnt. */
+    static String others(ClothesRemember x) {
+        StringBuilder all = new StringBuilder();
+        int garments = garments(x);
+        for (int g = 0; g < garments; g++) {
             all.append(x.garmentOf(g, 0)).append(x.garmentOf(g, 1)).append(x.garmentOf(g, 2)).append(' ');
         }
-        for (int p = 0; p < people(x); p++) {
+        int people = people(x);
+        for (int p = 0; p < people; p++) {
             all.append(x.personOf(p, 0)).append(' ');
             for (int hour = 0; hour < HOURS; hour++) {
                 all.append(x.personOf(p, 10 + hour));
